@@ -137,8 +137,9 @@ public final class PrimeDesk {
 
     /** The smallest prime factor of m, for m from 2 to twice GREATEST. */
     private static int smallestFactor(int m) {
-        // Of two factors that make m, the smaller one's square is not above m.
-        for (int d = 2; d * d <= m; d++) {
+        // Of two factors that make m, the smaller one's square is not above m. A quotient is compared, not the
+        // square: a square could wrap around, and then the loop's end would rest on what the callers hand in.
+        for (int d = 2; d <= m / d; d++) {
             if (m % d == 0) {
                 return d;
             }

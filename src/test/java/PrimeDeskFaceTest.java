@@ -114,9 +114,15 @@ public final class PrimeDeskFaceTest {
     }
 
     private static void methods() {
-        Set<String> names = new HashSet<>();
+        Set<String> publicNames = new HashSet<>();
         for (Method method : PrimeDesk.class.getDeclaredMethods()) {
-            holds(method.getName() + " is the only method of its name", names.add(method.getName()));
+            if (!isPrivate(method)) {
+                publicNames.add(method.getName());
+            }
+        }
+        for (Method method : PrimeDesk.class.getDeclaredMethods()) {
+            holds(method + " does not bear the name of a public method",
+                !isPrivate(method) || !publicNames.contains(method.getName()));
             holds(method + " takes at most seven parameters", method.getParameterCount() <= 7);
             holds(method + " answers an allowed type, no array",
                 TYPES.contains(method.getReturnType()) && !method.getReturnType().isArray());
